@@ -10,6 +10,8 @@ final class Model {
     final List<int[]> seen = new ArrayList<>();
     int river = 5;
     int begin = 9;
+    private final String[] looked = new String[3];
+    private final String[] well = new String[3];
 
     private static final Pattern PLANKS = Pattern.compile("[.r]*");
     private static final Pattern CROSSERS = Pattern.compile("([phcgb][1-9][we][0-9](;[phcgb][1-9][we][0-9]){0,7})?");
@@ -47,7 +49,12 @@ final class Model {
     }
 
     private String well(int text) {
-        return fault(text) == -1 ? texts[text].toString() : "";
+        String bytes = texts[text].toString();
+        if (!bytes.equals(looked[text])) {
+            looked[text] = bytes;
+            well[text] = fault(text) == -1 ? bytes : "";
+        }
+        return well[text];
     }
 
     String planks() {
@@ -242,11 +249,12 @@ final class Model {
     int ask() {
         int asked = 0;
         int least = Integer.MAX_VALUE;
+        int began = began();
         for (int number = 0; number <= crossings().length; number++) {
             int[] on = new int[19];
             int greatest = 0;
             for (int plank = 0; plank < 19; plank++) {
-                if ((began() >> plank & 1) == 1) {
+                if ((began >> plank & 1) == 1) {
                     int gap = gapBehind(walk(crossings(), plank, shifts), number, plank);
                     greatest = Math.max(greatest, ++on[gap]);
                 }
