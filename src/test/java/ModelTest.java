@@ -96,7 +96,9 @@ public final class ModelTest {
         if (chance(4) == 0) {
             CHECK.due("3: wipe", x.wipe(text), bytes.length());
             bytes.setLength(0);
-        } else if (bytes.length() > 0) {
+        }
+        int undone = text == 1 && chance(4) > 0 ? 5 : 1;
+        for (int i = 0; i < undone && bytes.length() > 0; i++) {
             bytes.setLength(bytes.length() - 1);
             CHECK.due("4: undo", x.undo(text), bytes.length());
         }

@@ -7,6 +7,7 @@ public final class PlansTest {
         mostCross();
         leastTolls();
         leastRow();
+        orderOfFewer();
         orderWithoutSomething();
         ahead();
         often();
@@ -46,6 +47,19 @@ public final class PlansTest {
         row("least", x, 0, 1, 2);
         x.type(2, 'a');
         CHECK.due("17: in place of CROSSINGS", x.order(0), 2);
+    }
+
+    /** The plan of three must leave nothing behind for the plan of two. */
+    private static void orderOfFewer() {
+        MiddlePlank x = Check.bridge("..r..", "h6w9;p1w1;p1w9", "");
+        x.set(1, 0);
+        CHECK.due("17: three", x.order(0), 3);
+        for (int i = 0; i < 5; i++) {
+            x.undo(1);
+        }
+        CHECK.due("17: two of three", x.order(0), 2);
+        CHECK.due("17: two of three, TOLLS", x.order(1), 2);
+        row("two of three", x, 1, 0);
     }
 
     private static void orderWithoutSomething() {

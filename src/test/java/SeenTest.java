@@ -12,6 +12,7 @@ public final class SeenTest {
         readAsLongAsEachMayBe();
         rule();
         began();
+        seenBehindAll24();
         ask();
         maybe();
         maybeAtTheLimit();
@@ -126,6 +127,16 @@ public final class SeenTest {
         y.forget();
         y.seen(1, 2);
         CHECK.due("24: who TURNS BACK leaves it", y.began(), 1 << 1 | 1 << 2);
+    }
+
+    private static void seenBehindAll24() {
+        MiddlePlank x = Check.bridge("...................", "p1w9", "aaaaaaaaaaaaaaaaaaaaaaaa");
+        x.seen(24, (9 + 24) % 19);
+        CHECK.due("23: behind all 24", x.rule(0), 1 << 10);
+        CHECK.due("24: behind all 24", x.began(), 1 << 9);
+        x.undo(2);
+        CHECK.due("23: behind one more than all", x.rule(0), 0);
+        CHECK.due("24: behind one more than all", x.began(), 0);
     }
 
     private static void ask() {
