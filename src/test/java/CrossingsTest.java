@@ -14,6 +14,12 @@ public final class CrossingsTest {
         taken();
         stuck();
         worn();
+        behind24Crossings();
+        timesByWhereTheGapWas();
+        stuckAtEachPlace();
+        wornFrom0ToAll();
+        wornAnew();
+        askedBetweenChanges();
         CHECK.end();
     }
 
@@ -138,5 +144,116 @@ public final class CrossingsTest {
         CHECK.due("16: of like ones the least", Check.bridge("....", "p1e1", "aaa").worn(), 0);
         CHECK.due("16: the most often", Check.bridge("....", "p1w1;p1w0", "abb").worn(), 2);
         CHECK.due("16: IDLE ones count too", Check.bridge("....", "p1w1", "ahh").worn(), 2);
+    }
+
+    /** "Behind so many CROSSINGS (0 to all)", where all are as many as there can be. */
+    private static void behind24Crossings() {
+        MiddlePlank x = Check.bridge("...................", "p1w1", "aaaaaaaaaaaaaaaaaaaaaaaa");
+        for (int number = 0; number <= 24; number++) {
+            CHECK.due("11: behind " + number + " of 24", x.gap(number), (9 + number) % 19);
+            CHECK.due("14: behind " + number + " of 24", x.taken(number), number);
+        }
+        CHECK.due("11: behind 25 of 24", x.gap(25), BAD);
+        CHECK.due("14: behind 25 of 24", x.taken(25), BAD);
+        CHECK.due("12: the last of 24", x.comes(23, 0), CROSSES);
+        CHECK.due("12: none behind 24", x.comes(24, 0), BAD);
+        CHECK.due("13: 24 times", x.times(0, 0), 24);
+        CHECK.due("34: TOLLS of 24", x.count(6), 24);
+        for (int left = 23; left >= 0; left--) {
+            CHECK.due("4: a CROSSING undone", x.undo(2), left);
+            CHECK.due("11: behind all that are left", x.gap(left), (9 + left) % 19);
+            CHECK.due("11: not behind one more", x.gap(left + 1), BAD);
+            CHECK.due("12: not of the one undone", x.comes(left, 0), BAD);
+        }
+    }
+
+    /** "Of a CROSSER: how many times it CROSSES; TURNS BACK", once so, once so; IDLE is neither. */
+    private static void timesByWhereTheGapWas() {
+        MiddlePlank x = Check.bridge("..r.....", "g6w1;p1w1;g6e2", "ababacabacha");
+        x.set(1, 0);
+        int[] comes = {1, 1, 2, 1, 1, 1, 1, 1, 2, 1, 0, 2};
+        for (int i = 0; i < comes.length; i++) {
+            CHECK.due("12: of " + i, x.comes(i, 0), comes[i]);
+        }
+        CHECK.due("13: CROSSES", x.times(0, 0), 3);
+        CHECK.due("13: TURNS BACK", x.times(0, 1), 3);
+        CHECK.due("13: always CROSSES", x.times(1, 0), 3);
+        CHECK.due("13: never TURNS BACK", x.times(1, 1), 0);
+        CHECK.due("13: another one CROSSES", x.times(2, 0), 2);
+        x.set(0, 1);
+        CHECK.due("13: IDLE is no CROSSING over", x.times(0, 0), 0);
+        CHECK.due("13: IDLE is no TURNING BACK", x.times(0, 1), 0);
+        x.wipe(2);
+        CHECK.due("13: without CROSSINGS", x.times(0, 0), 0);
+    }
+
+    /** "STUCK: the first CROSSING that TURNS BACK; NONE." */
+    private static void stuckAtEachPlace() {
+        for (int place = 0; place < 24; place++) {
+            StringBuilder row = new StringBuilder("aaaaaaaaaaaaaaaaaaaaaaab");
+            row.setCharAt(place, 'b');
+            CHECK.due("15: the first at " + place, Check.bridge("...", "g1w1;g1w0", row.toString()).stuck(), place);
+        }
+        MiddlePlank x = Check.bridge("...", "g1w1;g1w0", "b");
+        x.set(0, 1);
+        CHECK.due("15: IDLE", x.stuck(), NONE);
+        x.set(0, 5);
+        x.wipe(0);
+        CHECK.due("15: no PLANKS", x.stuck(), NONE);
+        CHECK.due("15: no such CROSSER", Check.bridge("...", "g1w1", "b").stuck(), NONE);
+    }
+
+    /** "behind 0 CROSSINGS to all": the first GAP and the last one count. */
+    private static void wornFrom0ToAll() {
+        CHECK.due("16: behind 0 counts", Check.bridge("....", "p1w1", "a").worn(), 1);
+        CHECK.due("16: behind all counts", Check.bridge("....", "p1e1", "a").worn(), 0);
+        CHECK.due("16: behind each", Check.bridge("....", "p1w1;g1w1", "ab").worn(), 2);
+        CHECK.due("16: the last PLANK", Check.bridge("...................", "h1w1;p1w1;g1w1", "aaaabg").worn(), 18);
+        MiddlePlank first = Check.bridge("..", "g1w1", "aaaaaaaaaaaaaaaaaaaaaaaa");
+        first.set(1, 0);
+        CHECK.due("16: 25 times the first PLANK", first.worn(), 0);
+        CHECK.due("16: no PLANKS, no CROSSINGS", new MiddlePlank().worn(), NONE);
+        CHECK.due("16: one PLANK", Check.bridge(".", "", "").worn(), 0);
+    }
+
+    /** WORN leaves nothing behind for the next time that it is asked. */
+    private static void wornAnew() {
+        MiddlePlank x = Check.bridge("....", "p1w1", "");
+        x.set(1, 0);
+        CHECK.due("16: on 0", x.worn(), 0);
+        CHECK.due("16: on 0 again", x.worn(), 0);
+        for (int begin = 3; begin >= 0; begin--) {
+            x.set(1, begin);
+            CHECK.due("16: from " + begin, x.worn(), begin);
+        }
+    }
+
+    /** Each answer is of what stands then, whatever was asked before. */
+    private static void askedBetweenChanges() {
+        MiddlePlank x = Check.bridge("......", "p6w1", "a");
+        CHECK.due("11: before", x.gap(1), 4);
+        x.shift(0, 2);
+        CHECK.due("11: behind shift()", x.gap(1), 5);
+        x.set(1, 0);
+        CHECK.due("11: behind set(1)", x.gap(1), 2);
+        x.set(0, 7);
+        CHECK.due("12: behind set(0)", x.comes(0, 0), TURNS_BACK);
+        x.set(0, 5);
+        x.undo(0);
+        CHECK.due("11: behind undo(0)", x.gap(1), 2);
+        x.type(0, 'r');
+        CHECK.due("12: behind type(0)", x.comes(0, 1), 2);
+        x.type(1, ';');
+        CHECK.due("12: behind type(1)", x.comes(0, 0), IDLE);
+        x.undo(1);
+        CHECK.due("12: behind undo(1)", x.comes(0, 0), CROSSES);
+        x.type(2, 'a');
+        CHECK.due("11: behind type(2)", x.gap(2), 4);
+        x.wipe(2);
+        CHECK.due("11: behind wipe(2)", x.gap(1), BAD);
+        x.wipe(0);
+        CHECK.due("11: behind wipe(0)", x.gap(0), NONE);
+        x.wipe(1);
+        CHECK.due("7: behind wipe(1)", x.crosser(0, 0), BAD);
     }
 }

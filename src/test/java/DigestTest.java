@@ -14,6 +14,9 @@ public final class DigestTest {
         of("SEEN", seen);
         findingsDoNotCount();
         newObject();
+        smallBridge();
+        tooManyForMaybe();
+        moreThanADigestSees();
         CHECK.end();
     }
 
@@ -73,5 +76,53 @@ public final class DigestTest {
         for (long one : each) {
             h[0] = 31 * h[0] + one;
         }
+    }
+
+    private static long of(long... row) {
+        long[] h = {17};
+        more(h, row);
+        return h[0];
+    }
+
+    /** Written out: one PLANK, one CROSSER, one CROSSING; it CROSSES anyway, and often() of itself is BAD. */
+    private static void smallBridge() {
+        MiddlePlank x = Check.bridge(".", "p1w1", "a");
+        long due = of(1, 1, 1, 1, 4, 1, 1, 0, -1, -1, -1, 0, 1, 1, 0, 1, 0, 1, 1, 0, -3, -2, 0, 1, 1, 1,
+                0, 0, 0, 1, -1, 0, 1, 1, 0, -1, 524287, 524287, 524287, 524287, 1, 0, 0, 30);
+        CHECK.due("35: a small bridge, written out", x.digest(), due);
+    }
+
+    /** Written out: by 11 CROSSINGS maybe() is told as the least long and 2 more. */
+    private static void tooManyForMaybe() {
+        MiddlePlank x = Check.bridge(".", "", "aaaaaaaaaaa");
+        long bad = Long.MIN_VALUE + 2;
+        long[] h = {of(1, 0, 11, 1, 0, 11, 0, 0, -1, -1, -1, 0, bad, bad)};
+        for (int i = 0; i < 11; i++) {
+            more(h, 0, 0, 0, 0);
+        }
+        for (int number = 0; number <= 11; number++) {
+            more(h, 0, 0);
+        }
+        more(h, -1, 0, 0, 0, -1, -1, 524287, 524287, 524287, 524287, 1, 0, 0, 0);
+        CHECK.due("35: 11 CROSSINGS, written out", x.digest(), h[0]);
+    }
+
+    /** SHEETS are no part of it, nor is what a faulty text says. */
+    private static void moreThanADigestSees() {
+        MiddlePlank x = Check.bridge(".....", "p3w2;h7e3", "ab");
+        long before = x.digest();
+        x.sheet(0, 0, 9);
+        x.lay(0, 0, 1, 5);
+        CHECK.due("35: SHEETS are no part", x.digest(), before);
+        x.type(2, 'x');
+        long faulty = x.digest();
+        x.undo(2);
+        CHECK.due("35: undone", x.digest(), before);
+        x.type(2, 'y');
+        CHECK.due("35: another faulty byte", x.digest(), faulty);
+        x.seen(24, 18);
+        x.undo(2);
+        x.forget();
+        CHECK.due("35: forgotten", x.digest(), before);
     }
 }
