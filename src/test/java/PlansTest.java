@@ -47,6 +47,9 @@ public final class PlansTest {
         CHECK.due("17: how many", x.order(0), 2);
         CHECK.due("17: TOLLS", x.order(1), 2);
         row("tolls", x, 1, 0);
+        x.wipe(0);
+        CHECK.due("17: PLANKS wiped, how many", x.order(0), 0);
+        row("PLANKS wiped", x, 0, 1);
     }
 
     private static void leastRow() {
