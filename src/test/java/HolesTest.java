@@ -166,6 +166,7 @@ public final class HolesTest {
         come("the first one is rotten anyway", y, 0, CROSSES, 2, 2);
     }
 
+    /** "(behind the last one the first)", where that is the GAP itself, or beside it. */
     private static void fewPlanksAtFullRiver() {
         MiddlePlank one = Check.bridge(".", "p1w1;p1w0", "ab");
         one.set(0, 9);

@@ -145,6 +145,7 @@ public final class TermsTest {
         CHECK.due("CROSSINGS: a 25th", x.type(2, 'a'), FULL);
     }
 
+    /** "letters a to h (text 2), CROSSERS 0 to 7": any other byte is a FAULT. */
     private static void crossingsByEachByte() {
         for (int b = 0; b <= 255; b++) {
             MiddlePlank x = typed(2, "h");
@@ -177,6 +178,7 @@ public final class TermsTest {
         }
     }
 
+    /** "The FAULT of a text is the place of the first byte ..": each place of a full text, to the last. */
     private static void faultAtTheLastPlace() {
         String[] full = {SOUND, EIGHT, "abcdefghabcdefghabcdefgh"};
         int[] each = {19, 8, 24};
